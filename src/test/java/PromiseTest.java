@@ -134,8 +134,7 @@ public final class PromiseTest {
                 ZoneDesk desk = new ZoneDesk();
                 int left = 0;
                 for (int p = 0; p < 1000; p++) {
-                    int[] x = {0, p % 10, p / 10 % 10, p / 100};
-                    left += x[pair / 4] - x[pair % 4] <= c ? 1 : 0;
+                    left += one(difference(pair, p) <= c);
                 }
                 due(4, "constrain(2, " + pair + ", " + c + ")", desk.constrain(2, pair, c), left > 0 ? 1 : 0);
                 due(4, "count after constrain(2, " + pair + ", " + c + ")", desk.count(2), left);
@@ -205,6 +204,7 @@ public final class PromiseTest {
             d.hull(0, 1);
             return 0;
         }, 990, 991, 992);
+        hullsOfTwoPoints();
         ZoneDesk desk = mixedDesk();
         int before = desk.count(0);
         due(6, "hull with itself", desk.hull(0, 0), 1);
@@ -225,6 +225,39 @@ public final class PromiseTest {
         }
     }
 
+    /** The number of points that keep every bound which both points keep. */
+    private static void hullsOfTwoPoints() {
+        for (int p = 0; p < 1000; p += 37) {
+            for (int q = 999; q >= 0; q -= 111) {
+                int kept = 0;
+                for (int r = 0; r < 1000; r++) {
+                    kept += one(keepsBoundsOfBoth(r, p, q));
+                }
+                ZoneDesk desk = new ZoneDesk();
+                point(desk, 0, p % 10, p / 10 % 10, p / 100);
+                point(desk, 1, q % 10, q / 10 % 10, q / 100);
+                due(6, "hull of " + p + " and " + q, desk.hull(0, 1), 1);
+                due(6, "count of the hull of " + p + " and " + q, desk.count(0), kept);
+                due(6, "whether it has the first", desk.has(0, p), true);
+                due(6, "whether it has the second", desk.has(0, q), true);
+            }
+        }
+    }
+
+    private static boolean keepsBoundsOfBoth(int r, int p, int q) {
+        for (int pair : PAIRS) {
+            if (difference(pair, r) > Math.max(difference(pair, p), difference(pair, q))) {
+                return false;
+            }
+        }
+        return true;
+    }
+
+    private static int difference(int pair, int p) {
+        int[] x = {0, p % 10, p / 10 % 10, p / 100};
+        return x[pair / 4] - x[pair % 4];
+    }
+
     private static void delay() {
         points(7, "delay of 753", d -> {
             point(d, 0, 3, 5, 7);
@@ -236,6 +269,18 @@ public final class PromiseTest {
             due(7, "delay(0)", d.delay(0), 1);
             return 0;
         }, 9);
+        points(7, "delay of 090", d -> {
+            point(d, 0, 0, 9, 0);
+            due(7, "delay(0)", d.delay(0), 1);
+            return 0;
+        }, 90);
+        points(7, "delay of 900", d -> {
+            clear(d, 1);
+            point(d, 0, 0, 0, 9);
+            due(7, "delay(0)", d.delay(0), 1);
+            due(7, "empty of the zone behind it", d.empty(1), true);
+            return 0;
+        }, 900);
         points(7, "delay of 000", d -> {
             point(d, 3, 0, 0, 0);
             due(7, "delay(3)", d.delay(3), 1);
@@ -258,6 +303,18 @@ public final class PromiseTest {
             due(8, "past(0)", d.past(0), 1);
             return 0;
         }, 990);
+        points(8, "past of 909", d -> {
+            point(d, 0, 9, 0, 9);
+            due(8, "past(0)", d.past(0), 1);
+            return 0;
+        }, 909);
+        points(8, "past of 099", d -> {
+            point(d, 1, 9, 9, 0);
+            clear(d, 0);
+            due(8, "past(1)", d.past(1), 1);
+            due(8, "empty of the zone before it", d.empty(0), true);
+            return 1;
+        }, 99);
         points(8, "past of 999", d -> {
             point(d, 3, 9, 9, 9);
             due(8, "past(3)", d.past(3), 1);
@@ -324,6 +381,16 @@ public final class PromiseTest {
             due(10, "forget(2, 3)", d.forget(2, 3), 1);
             return 2;
         }, 53, 153, 253, 353, 453, 553, 653, 753, 853, 953);
+        points(10, "000 without x1", d -> {
+            point(d, 0, 0, 0, 0);
+            d.forget(0, 1);
+            return 0;
+        }, 0, 1, 2, 3, 4, 5, 6, 7, 8, 9);
+        points(10, "999 without x2", d -> {
+            point(d, 0, 9, 9, 9);
+            d.forget(0, 2);
+            return 0;
+        }, 909, 919, 929, 939, 949, 959, 969, 979, 989, 999);
         due(10, "forget of an empty zone", mixedDesk().forget(2, 1), 0);
         for (int z : WRONG_ZONES) {
             refused(10, "forget(" + z + ", 1)", BAD, d -> d.forget(z, 1));
@@ -413,6 +480,10 @@ public final class PromiseTest {
         desk.fresh(3);
         desk.constrain(3, 1, -1);
         due(15, "fresh in one that only lacks x1 = 0", desk.within(0, 3), false);
+        point(desk, 0, 0, 0, 0);
+        point(desk, 1, 9, 9, 9);
+        due(15, "the first point in the last one", desk.within(0, 1), false);
+        due(15, "the last point in the first one", desk.within(1, 0), false);
         for (int z : WRONG_ZONES) {
             refused(15, "within(" + z + ", 3)", 0, d -> one(d.within(z, 3)));
             refused(15, "within(2, " + z + ")", 0, d -> one(d.within(2, z)));
@@ -467,6 +538,10 @@ public final class PromiseTest {
         desk.constrain(3, 9, 1);
         due(18, "x1 - x2 from -1 to 2", desk.spread(3, 6), 4);
         due(18, "x2 - x1 from -2 to 1", desk.spread(3, 9), 4);
+        point(desk, 0, 0, 0, 0);
+        point(desk, 1, 9, 9, 9);
+        due(18, "spread of the first point", desk.spread(0, 4), 1);
+        due(18, "spread of the last point", desk.spread(1, 4), 1);
         for (int z : WRONG_ZONES) {
             refused(18, "spread(" + z + ", 1)", BAD, d -> d.spread(z, 1));
         }
@@ -493,10 +568,16 @@ public final class PromiseTest {
         due(19, "a point and itself", desk.meeting(1, 1), 0);
         due(19, "count after meeting", desk.count(1), 1);
         due(19, "least after meeting", desk.least(1), 753);
-        // The numbers differ by 111, but x1 would have to be 10: no point moves from 9 to 120.
+        // In each of these the numbers differ by 111, but one of x1, x2, x3 would have to be 10.
         point(desk, 0, 9, 0, 0);
         point(desk, 1, 0, 2, 1);
         due(19, "009 and 120", desk.meeting(0, 1), NONE);
+        point(desk, 0, 0, 9, 0);
+        point(desk, 1, 1, 0, 2);
+        due(19, "090 and 201", desk.meeting(0, 1), NONE);
+        desk.fresh(2);
+        point(desk, 0, 0, 0, 9);
+        due(19, "900 and 201, with a fresh zone behind it", desk.meeting(0, 1), NONE);
         for (int z : WRONG_ZONES) {
             refused(19, "meeting(" + z + ", 3)", BAD, e -> e.meeting(z, 3));
             refused(19, "meeting(3, " + z + ")", BAD, e -> e.meeting(3, z));
