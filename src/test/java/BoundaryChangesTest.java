@@ -1,4 +1,3 @@
-import java.util.Arrays;
 import java.util.List;
 
 /** The boundary cases of promises 1 to 10, of the calls that make zones: a test for each sentence. */
@@ -11,31 +10,6 @@ public final class BoundaryChangesTest extends Sentences {
 
     private static Points both(Points a, Points b) {
         return (x1, x2, x3) -> a.has(x1, x2, x3) && b.has(x1, x2, x3);
-    }
-
-    /** The points that keep every constraint which all points of both keep: the document's words, tried out. */
-    private static Points hullOf(Points a, Points b) {
-        boolean[] kept = new boolean[1000];
-        Arrays.fill(kept, true);
-        for (int pair : PAIRS) {
-            for (int c = -10; c <= 9; c++) {
-                if (allKeep(a, pair, c) && allKeep(b, pair, c)) {
-                    for (int p = 0; p < 1000; p++) {
-                        kept[p] = kept[p] && difference(pair, p) <= c;
-                    }
-                }
-            }
-        }
-        return (x1, x2, x3) -> kept[x1 + 10 * x2 + 100 * x3];
-    }
-
-    private static boolean allKeep(Points points, int pair, int c) {
-        for (int p = 0; p < 1000; p++) {
-            if (has(points, p) && difference(pair, p) > c) {
-                return false;
-            }
-        }
-        return true;
     }
 
     /** Moved by any number of steps of this sign; sign 1 is delay and sign -1 is past. */
@@ -215,17 +189,6 @@ public final class BoundaryChangesTest extends Sentences {
         answers(state(0, LAST, EMPTY), "hull(0, 0)", 1);
     }
 
-    /** Every two of the outermost points, and two inner ones whose differences are one another's opposites. */
-    private static void hullsOfCorners() {
-        int[] corners = {0, 9, 90, 99, 900, 909, 990, 999, 753, 357};
-        for (int p : corners) {
-            for (int q : corners) {
-                Points then = hullOf(point(p).points(), point(q).points());
-                becomes(state(1, point(p), 2, point(q)), "hull(1, 2)", 1, 1, then);
-            }
-        }
-    }
-
     private static void movesEveryKind(String name, int sign) {
         for (Kind kind : KINDS) {
             for (int z = 0; z < 4; z++) {
@@ -353,10 +316,7 @@ public final class BoundaryChangesTest extends Sentences {
         sentence("5: Meets zone z with zone y", () -> everyTwo("meet", false, BoundaryChangesTest::both));
         sentence("5: BAD_ARG if y is not 0 to 3", () -> refusesOtherZone("meet"));
         sentence("5: Otherwise 1 if it has a point afterwards, else 0", BoundaryChangesTest::meetAnswers);
-        sentence("6: Zone z becomes its hull with zone y", () -> {
-            everyTwo("hull", false, BoundaryChangesTest::hullOf);
-            hullsOfCorners();
-        });
+        sentence("6: Zone z becomes its hull with zone y", () -> everyTwo("hull", false, Sentences::hullOf));
         sentence("6: BAD_ARG if y is not 0 to 3", () -> refusesOtherZone("hull"));
         sentence("6: Otherwise 1 if it has a point afterwards, else 0", BoundaryChangesTest::hullAnswers);
         sentence("7: Delay", () -> movesEveryKind("delay", 1));

@@ -3,7 +3,6 @@ import java.util.List;
 /** The boundary cases of promises 11 to 20, of the calls that only answer: a test for each sentence. */
 public final class BoundaryQuestionsTest extends Sentences {
     private static final Kind[] OTHERS = {FULL, EMPTY};
-    private static final int[] CORNERS = {0, 9, 90, 99, 900, 909, 990, 999};
 
     private interface Due {
         int of(Points points);

@@ -230,6 +230,12 @@ public final class BoundaryTermsTest extends Sentences {
         becomes(state(1, EMPTY, 2, MIDDLE), "hull(1, 2)", 1, 1, MIDDLE.points());
         becomes(state(1, EMPTY, 2, EMPTY), "hull(1, 2)", 0, 1, EMPTY.points());
         becomes(state(1, FULL, 2, MIDDLE), "hull(1, 2)", 1, 1, FULL.points());
+        for (int p : CORNERS) {
+            for (int q = 0; q < 1000; q += 37) {
+                Points then = hullOf(point(p).points(), point(q).points());
+                becomes(state(1, point(p), 2, point(q)), "hull(1, 2)", 1, 1, then);
+            }
+        }
     }
 
     /** Each call with a wrong zone, once with the other arguments right and then with all of them wrong. */

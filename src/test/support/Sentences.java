@@ -1,4 +1,5 @@
 import java.util.ArrayList;
+import java.util.Arrays;
 import java.util.List;
 
 /**
@@ -20,6 +21,9 @@ abstract class Sentences {
         0, 5, 10, 15, -1, -2, -3, -4, -5, -6, -9, -10, -12, -14, -15, -16, 16, 17, 18, 19, 20, 21, 22, 24, 36,
         256 + 4, 65536 + 6, (1 << 30) + 1, MIN, MIN + 4, MAX, MAX - 1,
     };
+
+    /** The outermost points. */
+    static final int[] CORNERS = {0, 9, 90, 99, 900, 909, 990, 999};
 
     private static final int CALLS = 512;
     private static final int SHOWN = 5;
@@ -174,6 +178,31 @@ abstract class Sentences {
     static int difference(int pair, int number) {
         int[] x = {0, number % 10, number / 10 % 10, number / 100};
         return x[pair / 4] - x[pair % 4];
+    }
+
+    /** The points that keep every constraint which all points of both keep: the document's words, tried out. */
+    static Points hullOf(Points a, Points b) {
+        boolean[] kept = new boolean[1000];
+        Arrays.fill(kept, true);
+        for (int pair : PAIRS) {
+            for (int c = -10; c <= 9; c++) {
+                if (allKeep(a, pair, c) && allKeep(b, pair, c)) {
+                    for (int p = 0; p < 1000; p++) {
+                        kept[p] = kept[p] && difference(pair, p) <= c;
+                    }
+                }
+            }
+        }
+        return (x1, x2, x3) -> kept[x1 + 10 * x2 + 100 * x3];
+    }
+
+    static boolean allKeep(Points points, int pair, int c) {
+        for (int p = 0; p < 1000; p++) {
+            if (has(points, p) && difference(pair, p) > c) {
+                return false;
+            }
+        }
+        return true;
     }
 
     /** The call, made when the state stands, answers what is due. */
