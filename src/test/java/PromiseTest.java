@@ -600,18 +600,6 @@ public final class PromiseTest {
         }
     }
 
-    private static void readme() {
-        ZoneDesk desk = new ZoneDesk();
-        desk.constrain(0, 4, 4);
-        desk.constrain(0, 1, -2);
-        due(14, "count(0) of README.md", desk.count(0), 300);
-        desk.copy(1, 0);
-        desk.reset(1, 1, 0);
-        due(19, "meeting(1, 0) of README.md", desk.meeting(1, 0), 2);
-        desk.delay(1);
-        due(19, "meeting(1, 0) of README.md, after delay", desk.meeting(1, 0), 0);
-    }
-
     public static void main(String[] args) {
         due(20, "BAD_ARG", ZoneDesk.BAD_ARG, BAD);
         due(20, "NONE", ZoneDesk.NONE, NONE);
@@ -635,7 +623,6 @@ public final class PromiseTest {
         spread();
         meeting();
         order();
-        readme();
         System.out.println(wrong == 0 ? "all answers are as due" : wrong + " answers are not as due");
         if (wrong != 0) {
             System.exit(1);
